@@ -849,7 +849,6 @@ public final class SecondHas {
                         return stack[0];
                     }
                     passed = false;
-                    top = 0;
                 } else if (sign == '?') {
                     passed = stack[0] == 0;
                     top = 0;

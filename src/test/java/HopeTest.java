@@ -7,6 +7,7 @@ public final class HopeTest {
         voids(due);
         nears(due);
         changes(due);
+        behindTheBook(due);
         refused(due);
         due.end("HopeTest");
     }
@@ -93,6 +94,30 @@ public final class HopeTest {
         due.is("no such row", x.changes(6), Due.NONE);
         due.is("no such row", x.changes(-1), Due.NONE);
         due.is("no such row", x.changes(1000), Due.NONE);
+    }
+
+    /** A row of the book may be above MOST; what is asked behind it must not begin there. */
+    private static void behindTheBook(Due due) {
+        SecondHas x = Due.of("s;s;s;lt1m9");
+        x.honour(989);
+        x.change(4, 2);
+        x.often(0);
+        due.is("voids", x.voids(), 21);
+        x.often(0);
+        due.is("hope", x.hope(0, 1, 0), 2);
+        x.often(0);
+        due.is("bold", x.bold(0), 1);
+        x.often(0);
+        due.is("rests", x.rests(0), 0);
+        int rests = x.rests(Due.NONE);
+        x.often(0);
+        x.change(3, 0);
+        due.is("as many rests", x.rests(Due.NONE), rests);
+        x.often(0);
+        due.is("together", x.together(0, 7, 0), 9);
+        due.is("its row", x.together(0, 7, 1), 12);
+        x.often(0);
+        due.is("rounds", x.rounds(1), 0);
     }
 
     private static void refused(Due due) {

@@ -8,6 +8,7 @@ public final class RaceTest {
         without(due);
         choice(due);
         latest(due);
+        changedRules(due);
         refused(due);
         due.end("RaceTest");
     }
@@ -142,6 +143,33 @@ public final class RaceTest {
         due.is("three steps and no more", x.latest(4), Due.NONE);
         SecondHas slow = all(Due.of("s;s", "y:1"), 0);
         due.is("just in time", slow.latest(99), 99);
+        due.is("in the first second", slow.latest(1), 1);
+    }
+
+    /** Each question is the first one behind a change of rules. */
+    private static void changedRules(Due due) {
+        SecondHas x = all(Due.of("sp3;sp2", "y:d", "y:1"), 0);
+        due.is("came", x.came(6, 9, 0), 1);
+        all(x, 1);
+        due.is("came by the other rule", x.came(6, 9, 0), 5);
+        all(x, 0);
+        due.is("step", x.step(6, 9, 0, 1), 3);
+        all(x, 1);
+        due.is("race", x.race(6, 9, 2), 5);
+        all(x, 0);
+        due.is("latest", x.latest(6), 3);
+        x.rule(0, Due.NONE);
+        due.is("medal", x.medal(6, 9, 0), 0);
+        due.is("medal of the other", x.medal(6, 9, 1), 1);
+        x.rule(0, 0);
+        due.is("without", x.without(6, 9, 1), Due.NONE);
+        due.is("medal behind without", x.medal(6, 9, 1), 2);
+        due.is("choice", x.choice(6, 9, 0), 1);
+        due.is("came behind choice", x.came(6, 9, 0), 1);
+        x.image();
+        all(x, Due.NONE);
+        x.back();
+        due.is("by the rules of the image", x.race(6, 9, 1), 2);
     }
 
     private static void refused(Due due) {

@@ -146,7 +146,18 @@ public final class RuleTest {
         truth(due, "2>1", true);
         truth(due, "2>2", false);
         truth(due, "!1=2", true);
+        truth(due, "!1=1", false);
+        truth(due, "!1<2", false);
+        truth(due, "!2>1", false);
         truth(due, "!!1=2", false);
+        truth(due, "!!1=1", true);
+        truth(due, "!1=2&1=1", true);
+        truth(due, "1=1&1<2", true);
+        truth(due, "1<2&2>1", true);
+        truth(due, "1=1&2>1", true);
+        truth(due, "1=1|(1=2)&1=2", true);
+        truth(due, "1=2|(1=1|1=2)&1=1", true);
+        truth(due, "1=1|1=2&(1=1&1=2)", true);
         truth(due, "1=2|1=1", true);
         truth(due, "1=1|1=1|1=2", true);
         truth(due, "1=2|1=2|1=1", true);
