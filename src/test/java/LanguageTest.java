@@ -111,10 +111,11 @@ public final class LanguageTest {
         while (thrown.find()) {
             DUE.is("throws " + thrown.group(1), thrown.group(1).equals("NoSuchElementException"), true);
         }
-        int made = code.split("\\bnew ", -1).length;
-        int inMethods = code.substring(code.indexOf("public int feed"), code.indexOf("static final class Tape")).split("\\bnew ", -1).length;
-        DUE.is("the face makes nothing but its one exception", inMethods, 2);
-        DUE.is("something is made", made > 2, true);
+        for (String line : code.split("\n")) {
+            boolean once = line.matches(" {8}(private )?final .* = new .*") || line.matches(" {8}\\w+ = new .*");
+            boolean made = line.contains("new ") && !line.contains("throw new ");
+            DUE.is("made by a call: " + line.trim(), made && !once, false);
+        }
         lengths(code);
     }
 

@@ -5,6 +5,7 @@ public final class RoundsTest {
         still(due);
         rings(due);
         replies(due);
+        longWays(due);
         refused(due);
         due.end("RoundsTest");
     }
@@ -41,6 +42,23 @@ public final class RoundsTest {
         rounds(due, "sk1w2b3;sk0b2;lr1m5", 1, 2, 1);
         rounds(due, "sk1b5;sk1b5;lr6m5", 1, 0, 1);
         rounds(due, "sk1w9b3;sk0b4;lr2m5", 1, 4, 1);
+    }
+
+    /** The longest ways that were found, held against the whole history. */
+    private static void longWays(Due due) {
+        String[] lands = {"sk2w6b7;sk1w2b5;sk1w4b7;sk2w56b0;sk2w52b3;sk2w97b6;lr2t0q2f0m7",
+            "sk2w74b7;sk1w11b7;sk1w94b0;sk4w13b2;sk1w55b7;sk2w4b3;lr2t0q1f0m9",
+            "sk2w12b7;sk2w5b8;sk1w41b3;sk2w3b4;sk2w9b2;sk2w50b9;lr2t0q1f0m9"};
+        for (String land : lands) {
+            Oracle y = new Oracle();
+            for (char sign : land.toCharArray()) {
+                y.feed(sign, 0, 0, 0, 0);
+            }
+            y.text(0);
+            rounds(due, land, y.rounds(0), y.rounds(1), y.rounds(2));
+        }
+        due.is("still behind 79", Due.of(lands[0]).rounds(0), 79);
+        due.is("a ring of 80", Due.of(lands[1]).rounds(2), 80);
     }
 
     private static void refused(Due due) {
