@@ -5,12 +5,22 @@ final class Due {
 
     private int wrong;
     private int asked;
+    private String heading = "";
+
+    /** What all that is asked from here on is asked for. */
+    void under(String words) {
+        heading = words;
+    }
+
+    int asked() {
+        return asked;
+    }
 
     void is(String call, long got, long want) {
         asked++;
         if (got != want) {
             wrong++;
-            System.out.println(call + " answered " + got + ", due is " + want);
+            System.out.println(heading + call + " answered " + got + ", due is " + want);
         }
     }
 
