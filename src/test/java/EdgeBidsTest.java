@@ -1,9 +1,6 @@
 /** Promises 13 to 20, each sentence that names an edge: bids, gain, rests, seller, cure, firm, together, treason. */
 public final class EdgeBidsTest {
     private static final int[] WILD = {Integer.MIN_VALUE, -1000000, -2, 1000000, Integer.MAX_VALUE};
-    private static final int[] NOBODY = {Integer.MIN_VALUE, -2, -1, 3, 4, 6, Integer.MAX_VALUE};
-    private static final int[] NO_ROW = {Integer.MIN_VALUE, -321, -1, 6, 9, 60, 600, 556, 565, 655, 999, 1000, 1321, 10000,
-        1000000, Integer.MAX_VALUE};
 
     public static void main(String[] args) throws ReflectiveOperationException {
         Sentences.run(EdgeBidsTest.class);
@@ -54,7 +51,7 @@ public final class EdgeBidsTest {
     static void bidsRefused(Due due) {
         for (int what = 0; what < 4; what++) {
             int one = what;
-            for (int row : NO_ROW) {
+            for (int row : States.NO_ROW) {
                 Watch.same(due, "row " + row, States::three, x -> x.bids(row, one), Due.HIDDEN);
             }
             Watch.same(due, "no land", States::none, x -> x.bids(0, one), Due.HIDDEN);
@@ -164,10 +161,10 @@ public final class EdgeBidsTest {
 
     @Says(promise = 14, words = "HIDDEN: no such ones.")
     static void gainRefused(Due due) {
-        for (int row : NO_ROW) {
+        for (int row : States.NO_ROW) {
             Watch.same(due, "row " + row, States::three, x -> x.gain(row, 0), Due.HIDDEN);
         }
-        for (int nobody : NOBODY) {
+        for (int nobody : States.NOBODY) {
             Watch.same(due, "striver " + nobody, States::three, x -> x.gain(321, nobody), Due.HIDDEN);
         }
         Watch.same(due, "no land", States::none, x -> x.gain(0, 0), Due.HIDDEN);
@@ -311,7 +308,7 @@ public final class EdgeBidsTest {
     static void cureRefused(Due due) {
         for (int what = 0; what < 3; what++) {
             int one = what;
-            for (int row : NO_ROW) {
+            for (int row : States.NO_ROW) {
                 Watch.same(due, "row " + row, States::three, x -> x.cure(row, one), Due.HIDDEN);
             }
             Watch.same(due, "no land", States::none, x -> x.cure(0, one), Due.HIDDEN);
@@ -342,7 +339,7 @@ public final class EdgeBidsTest {
 
     @Says(promise = 18, words = "NONE: no such ones.")
     static void firmRefused(Due due) {
-        for (int row : NO_ROW) {
+        for (int row : States.NO_ROW) {
             Watch.same(due, "row " + row, States::three, x -> x.firm(row, 1), Due.NONE);
         }
         for (int some : new int[] {0, -1, 8, 9, 15, 16, 64, -8, 1 << 30}) {
@@ -371,7 +368,7 @@ public final class EdgeBidsTest {
     static void togetherRefused(Due due) {
         for (int what = 0; what < 2; what++) {
             int one = what;
-            for (int row : NO_ROW) {
+            for (int row : States.NO_ROW) {
                 Watch.same(due, "row " + row, States::three, x -> x.together(row, 1, one), Due.HIDDEN);
             }
             for (int some : new int[] {0, -1, 8, 9, 15, 64, Integer.MIN_VALUE, Integer.MAX_VALUE}) {
@@ -420,7 +417,7 @@ public final class EdgeBidsTest {
 
     @Says(promise = 20, words = "NONE: none. HIDDEN likewise.")
     static void treasonRefused(Due due) {
-        for (int row : NO_ROW) {
+        for (int row : States.NO_ROW) {
             Watch.same(due, "row " + row, States::three, x -> x.treason(row, 1), Due.HIDDEN);
         }
         for (int some : new int[] {0, -1, 8, 9, 15, 64, Integer.MIN_VALUE, Integer.MAX_VALUE}) {

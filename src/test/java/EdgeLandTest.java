@@ -312,6 +312,27 @@ public final class EdgeLandTest {
         due.is("none of 17", worth("y:1=2?1;".repeat(16) + "y:1=0?5"), 0);
     }
 
+    @Says(promise = 9, words = "CONDITION: TRUTHS with | between; TRUTH: UNITS with & between;")
+    static void allTruthsOfFour(Due due) {
+        for (int bits = 0; bits < 16 * 8; bits++) {
+            boolean[] is = new boolean[4];
+            StringBuilder text = new StringBuilder("y:");
+            for (int i = 0; i < 4; i++) {
+                is[i] = (bits >> i & 1) != 0;
+                text.append((is[i] ? new String[] {"1<2", "1=1", "2>1", "!1=2"} : new String[] {"1<1", "1=2", "!2>1", "!1<2"})[i]);
+                text.append(i == 3 ? "?1" : (bits >> 4 + i & 1) != 0 ? "&" : "|");
+            }
+            boolean holds = false;
+            boolean truth = is[0];
+            for (int i = 0; i < 3; i++) {
+                boolean and = (bits >> 4 + i & 1) != 0;
+                holds |= !and && truth;
+                truth = and ? truth && is[i + 1] : is[i + 1];
+            }
+            due.is(text.toString(), worth(text.toString()), holds || truth ? 1 : 0);
+        }
+    }
+
     @Says(promise = 9, words = "UNIT: ! UNIT, ( CONDITION ), or SUM, one of = < >, SUM.")
     static void sixDeepTheyHold(Due due) {
         due.is("six !", worth("y:!!!!!!1=1?4"), 4);

@@ -2,7 +2,6 @@
 public final class EdgeRaceTest {
     private static final int[] NEAR_BOUNDS = {Integer.MIN_VALUE, -1000000, -1, 0, 1, 2, 50, 98, 99, 100, 101, Integer.MAX_VALUE};
     private static final int[] OUT = {Integer.MIN_VALUE, -99, -1, 0, 100, 101, Integer.MAX_VALUE};
-    private static final int[] NOBODY = {Integer.MIN_VALUE, -2, -1, 3, 4, 6, Integer.MAX_VALUE};
 
     public static void main(String[] args) throws ReflectiveOperationException {
         Sentences.run(EdgeRaceTest.class);
@@ -22,6 +21,22 @@ public final class EdgeRaceTest {
 
     private static boolean within(int number) {
         return number >= 1 && number <= 99;
+    }
+
+    /** A question for one STRIVER in a RACE. */
+    private interface Asked {
+        int of(SecondHas x, int track, int dusk, int striver);
+    }
+
+    private static void refused(Due due, Asked call) {
+        for (int out : OUT) {
+            Watch.same(due, "track " + out, States::three, x -> call.of(x, out, 9, 0), Due.HIDDEN);
+            Watch.same(due, "dusk " + out, States::three, x -> call.of(x, 9, out, 0), Due.HIDDEN);
+        }
+        for (int nobody : States.NOBODY) {
+            Watch.same(due, "striver " + nobody, States::three, x -> call.of(x, 9, 9, nobody), Due.HIDDEN);
+        }
+        Watch.same(due, "no land", States::none, x -> call.of(x, 9, 9, 0), Due.HIDDEN);
     }
 
     // ---- the bounds of all of them
@@ -203,14 +218,7 @@ public final class EdgeRaceTest {
                 due.is("came " + track + " " + dusk, x.came(track, dusk, 1), want);
             }
         }
-        for (int out : OUT) {
-            Watch.same(due, "track " + out, States::three, y -> y.came(out, 9, 0), Due.HIDDEN);
-            Watch.same(due, "dusk " + out, States::three, y -> y.came(9, out, 0), Due.HIDDEN);
-        }
-        for (int nobody : NOBODY) {
-            Watch.same(due, "striver " + nobody, States::three, y -> y.came(9, 9, nobody), Due.HIDDEN);
-        }
-        Watch.same(due, "no land", States::none, y -> y.came(9, 9, 0), Due.HIDDEN);
+        refused(due, SecondHas::came);
     }
 
     @Says(promise = 11, words = "NONE: it was not.")
@@ -244,19 +252,12 @@ public final class EdgeRaceTest {
 
     @Says(promise = 12, words = "HIDDEN: no such ones, out of bounds.")
     static void stepRefused(Due due) {
-        for (int out : OUT) {
-            Watch.same(due, "track " + out, States::three, x -> x.step(out, 9, 0, 1), Due.HIDDEN);
-            Watch.same(due, "dusk " + out, States::three, x -> x.step(9, out, 0, 0), Due.HIDDEN);
-        }
-        for (int nobody : NOBODY) {
-            Watch.same(due, "striver " + nobody, States::three, x -> x.step(9, 9, nobody, 1), Due.HIDDEN);
-        }
+        refused(due, (x, track, dusk, striver) -> x.step(track, dusk, striver, 0));
         for (int second : new int[] {Integer.MIN_VALUE, -2, -1, 10, 11, 99, Integer.MAX_VALUE}) {
             Watch.same(due, "second " + second, States::three, x -> x.step(9, 9, 0, second), Due.HIDDEN);
         }
         Watch.same(due, "second 9 of 9", States::three, x -> x.step(9, 9, 0, 9), 9);
         Watch.same(due, "second 0 of 9", States::three, x -> x.step(9, 9, 0, 0), 0);
-        Watch.same(due, "no land", States::none, x -> x.step(9, 9, 0, 0), Due.HIDDEN);
     }
 
     // ---- 36
@@ -289,14 +290,7 @@ public final class EdgeRaceTest {
                 due.is("without " + track + " " + dusk, x.without(track, dusk, 0), want);
             }
         }
-        for (int out : OUT) {
-            Watch.same(due, "track " + out, States::three, y -> y.without(out, 9, 0), Due.HIDDEN);
-            Watch.same(due, "dusk " + out, States::three, y -> y.without(9, out, 0), Due.HIDDEN);
-        }
-        for (int nobody : NOBODY) {
-            Watch.same(due, "striver " + nobody, States::three, y -> y.without(9, 9, nobody), Due.HIDDEN);
-        }
-        Watch.same(due, "no land", States::none, y -> y.without(9, 9, 0), Due.HIDDEN);
+        refused(due, SecondHas::without);
         due.is("of two one alone is no second", two().without(9, 9, 0), Due.NONE);
     }
 
@@ -331,14 +325,7 @@ public final class EdgeRaceTest {
                 due.is("choice " + track + " " + dusk, x.choice(track, dusk, 1), want);
             }
         }
-        for (int out : OUT) {
-            Watch.same(due, "track " + out, States::three, y -> y.choice(out, 9, 0), Due.HIDDEN);
-            Watch.same(due, "dusk " + out, States::three, y -> y.choice(9, out, 0), Due.HIDDEN);
-        }
-        for (int nobody : NOBODY) {
-            Watch.same(due, "striver " + nobody, States::three, y -> y.choice(9, 9, nobody), Due.HIDDEN);
-        }
-        Watch.same(due, "no land", States::none, y -> y.choice(9, 9, 0), Due.HIDDEN);
+        refused(due, SecondHas::choice);
         Watch.same(due, "there are no rules", () -> Due.of("s;s"), y -> y.choice(9, 9, 0), Due.NONE);
         Watch.same(due, "changes nothing", States::three, y -> y.choice(6, 9, 1), 0);
     }
@@ -413,14 +400,7 @@ public final class EdgeRaceTest {
                 due.is("medal " + track + " " + dusk, x.medal(track, dusk, 1), !sound ? Due.HIDDEN : dusk >= track ? 2 : 0);
             }
         }
-        for (int out : OUT) {
-            Watch.same(due, "track " + out, States::three, y -> y.medal(out, 9, 0), Due.HIDDEN);
-            Watch.same(due, "dusk " + out, States::three, y -> y.medal(9, out, 0), Due.HIDDEN);
-        }
-        for (int nobody : NOBODY) {
-            Watch.same(due, "striver " + nobody, States::three, y -> y.medal(9, 9, nobody), Due.HIDDEN);
-        }
-        Watch.same(due, "no land", States::none, y -> y.medal(9, 9, 0), Due.HIDDEN);
+        refused(due, SecondHas::medal);
         Watch.same(due, "changes nothing", States::three, y -> y.medal(6, 9, 1), 2);
     }
 }

@@ -155,6 +155,24 @@ public final class EdgeTapeTest {
     }
 
     @Says(promise = 2, words = "NONE: more than 160.")
+    static void everyByteTakesRoom(Due due) {
+        SecondHas full = new SecondHas();
+        Due.feed(full, "x".repeat(160));
+        for (int one = 1; one <= 255; one++) {
+            due.is("byte " + one + " to a full one", full.feed(0, one << 8 * (one % 4), 0, 0, 0), Due.NONE);
+        }
+        for (int one : new int[] {1, 2, 16, 127, 128, 255}) {
+            int four = one * 0x01010101;
+            for (int has = 156; has <= 160; has++) {
+                SecondHas x = new SecondHas();
+                Due.feed(x, "x".repeat(has));
+                due.is("four of " + one + " to " + has, x.feed(0, 0, four, 0, 0), has == 156 ? 160 : Due.NONE);
+                due.is("bytes then", x.count(2), has == 156 ? 160 : has);
+            }
+        }
+    }
+
+    @Says(promise = 2, words = "NONE: more than 160.")
     static void refusedWholeAndNothingChanged(Due due) {
         due.is("a full tape", States.fullTape().count(2), 160);
         Watch.same(due, "one more", States::fullTape, x -> x.feed(0, 0, 0, 0, 'x'), Due.NONE);

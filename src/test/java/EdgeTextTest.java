@@ -391,6 +391,10 @@ public final class EdgeTextTest {
         }
         due.is("a rule that stayed", x.rule(3, 1), true);
         due.is("and is what it was", x.step(9, 9, 3, 4), 4);
+        SecondHas rests = Due.of("s;s;lr1m9");
+        due.is("rests of the one: 9 and 9", rests.rests(-1), 1);
+        due.is("another", Due.land(rests, "s;s;lr6m9"), 2);
+        due.is("rests of the other", rests.rests(-1), 100);
         SecondHas same = States.plain();
         same.image();
         due.is("the same text is another land", Due.land(same, "sp3w20;sp2w15;sp1w10"), 3);

@@ -1,5 +1,11 @@
 /** Objects in states from which what is refused is asked for. */
 final class States {
+    /** Numbers that are no STRIVER of three. */
+    static final int[] NOBODY = {Integer.MIN_VALUE, -2, -1, 3, 4, 6, Integer.MAX_VALUE};
+    /** Numbers that are no row of three with a MOST of 5. */
+    static final int[] NO_ROW = {Integer.MIN_VALUE, -321, -1, 6, 9, 60, 600, 556, 565, 655, 999, 1000, 1321, 10000, 1000000,
+        Integer.MAX_VALUE};
+
     /** No LAND, but RULES, and a sound LAND on the tape. */
     static SecondHas none() {
         SecondHas x = new SecondHas();
