@@ -1,5 +1,7 @@
 import java.lang.reflect.InvocationTargetException;
 import java.lang.reflect.Method;
+import java.util.Arrays;
+import java.util.Comparator;
 import java.util.NoSuchElementException;
 import java.util.Random;
 
@@ -40,6 +42,7 @@ public final class NeverThrowsTest {
             }
         }
         Method[] face = SecondHas.class.getDeclaredMethods();
+        Arrays.sort(face, Comparator.comparing(Method::toString));
         for (int call = 0; call < calls; call++) {
             Method method = face[random.nextInt(face.length)];
             if (java.lang.reflect.Modifier.isPublic(method.getModifiers())) {
