@@ -1635,10 +1635,14 @@ public final class SecondHas {
             for (int i = 0; i < n; i++) {
                 for (int striver = 0; striver < land.size; striver++) {
                     x = x * DRAW_TIMES + DRAW_AND;
-                    sale.bid[striver] = (int) ((x >>> DRAW_SHIFT) % (land.law[MOST] + 1));
+                    sale.bid[striver] = drawOf(land.law[MOST] + 1, x);
                 }
                 add(sale.row());
             }
+        }
+
+        private static int drawOf(int m, long x) {
+            return m > 0 ? (int) ((x >>> DRAW_SHIFT) % m) : 0;
         }
 
         int timesOf(int striver) {

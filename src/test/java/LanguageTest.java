@@ -1,5 +1,6 @@
 import java.io.IOException;
 import java.lang.reflect.Constructor;
+import java.lang.reflect.Executable;
 import java.lang.reflect.Field;
 import java.lang.reflect.Method;
 import java.lang.reflect.Modifier;
@@ -15,61 +16,83 @@ import java.util.stream.Collectors;
 
 /** The face of the document and those rules of LANGUAGE.md that can be read off the class or its text. */
 public final class LanguageTest {
-    private static final String[] FACE = {"int feed(int,int,int,int,int)", "boolean end(int)", "int fault(int)",
-        "int text(int)", "int striver(int,int)", "int law(int)", "boolean change(int,int)", "boolean rule(int,int)",
-        "int race(int,int,int)", "int came(int,int,int)", "int step(int,int,int,int)", "int bids(int,int)",
-        "int gain(int,int)", "int rests(int)", "int seller(int)", "int cure(int,int)", "int firm(int,int)",
-        "int together(int,int,int)", "int treason(int,int)", "int waits(int,int)", "int spur(int)", "int rounds(int)",
-        "int honour(int)", "int years(int,long)", "int undo()", "int often(int)", "int made(int,int)", "int pair()",
-        "int sum(int)", "int hope(int,int,int)", "int bold(int)", "int voids()", "int near(int,int)",
-        "int changes(int)", "int without(int,int,int)", "int choice(int,int,int)", "int latest(int)",
-        "int medal(int,int,int)", "int image()", "int back()", "int count(int)"};
     private static final String[] FORBIDDEN = {"->", "::", "\\bcatch\\b", "\\bfinally\\b", "\\bsynchronized\\b",
         "\\bassert\\b", "\\bprotected\\b", "Exact\\b", "\\bstatic\\s*\\{", "\\bThread\\b", "\\bSystem\\.(?!arraycopy)",
         "\\bRandom\\b", "\\bdouble\\b", "\\bfloat\\b", "\\bvar\\b", "\\bwhile \\(true\\)", "for \\(;;", "\\bpackage\\b"};
 
     private static final Due DUE = new Due();
 
-    public static void main(String[] args) throws IOException {
-        face();
+    public static void main(String[] args) throws IOException, IllegalAccessException {
+        Path root = Path.of(System.getProperty("project.root", "."));
+        face(faceOf(Files.readString(root.resolve("../shared/DOC.md"))));
         classes();
-        text(Files.readString(Path.of(System.getProperty("project.root", "."), "src/main/java/SecondHas.java")));
+        text(Files.readString(root.resolve("src/main/java/SecondHas.java")));
         DUE.end("LanguageTest");
     }
 
-    private static void face() {
+    /** The members of the public face as the document has them, each on a line of its own, without the names of parameters. */
+    private static Set<String> faceOf(String document) {
+        int from = document.indexOf("public final class SecondHas {");
+        Set<String> face = new TreeSet<>();
+        for (String line : document.substring(from, document.indexOf("```", from)).split("\n")) {
+            if (line.startsWith("    public ")) {
+                face.add(line.trim().replaceAll("(int|long) \\w+(?=[,)])", "$1").replace(", ", ","));
+            }
+        }
+        return face;
+    }
+
+    private static String told(Executable member, String name) {
+        String parameters = Arrays.stream(member.getParameterTypes()).map(Class::getName).collect(Collectors.joining(","));
+        String thrown = Arrays.stream(member.getExceptionTypes()).map(Class::getSimpleName).collect(Collectors.joining(","));
+        return "public " + name + "(" + parameters + ")" + (thrown.isEmpty() ? "" : " throws " + thrown) + ";";
+    }
+
+    private static void face(Set<String> due) throws IllegalAccessException {
         Class<?> of = SecondHas.class;
         DUE.is("public and final", of.getModifiers(), Modifier.PUBLIC | Modifier.FINAL);
         Set<String> open = new TreeSet<>();
-        Set<String> closed = new TreeSet<>();
         for (Method method : of.getDeclaredMethods()) {
-            String parameters = Arrays.stream(method.getParameterTypes()).map(Class::getName).collect(Collectors.joining(","));
-            String told = method.getReturnType() + " " + method.getName() + "(" + parameters + ")";
             if (Modifier.isPublic(method.getModifiers())) {
-                open.add(told);
+                DUE.is(method + " is no static one", Modifier.isStatic(method.getModifiers()), false);
+                open.add(told(method, method.getReturnType() + " " + method.getName()));
+                onlyOneBears(method.getName());
             } else {
-                DUE.is(told + " is private", Modifier.isPrivate(method.getModifiers()), true);
-                closed.add(method.getName());
+                DUE.is(method + " is private", Modifier.isPrivate(method.getModifiers()), true);
             }
         }
-        DUE.is("the face: " + open, open.equals(new TreeSet<>(List.of(FACE))), true);
-        for (String told : FACE) {
-            String name = told.substring(told.indexOf(' ') + 1, told.indexOf('('));
-            DUE.is("a private method bears the name " + name, closed.contains(name), false);
-            for (Class<?> inner : of.getDeclaredClasses()) {
-                for (Method method : inner.getDeclaredMethods()) {
-                    DUE.is(inner + " has a method " + name, method.getName().equals(name), false);
-                }
-            }
+        for (Constructor<?> constructor : of.getDeclaredConstructors()) {
+            DUE.is("a public constructor", Modifier.isPublic(constructor.getModifiers()), true);
+            open.add(told(constructor, "SecondHas"));
         }
         for (Field field : of.getDeclaredFields()) {
-            boolean constant = field.getName().equals("NONE") || field.getName().equals("HIDDEN");
-            int due = Modifier.PUBLIC | Modifier.STATIC | Modifier.FINAL;
-            DUE.is(field.getName(), constant ? field.getModifiers() == due : Modifier.isPrivate(field.getModifiers()), true);
+            boolean isPublic = field.getModifiers() == (Modifier.PUBLIC | Modifier.STATIC | Modifier.FINAL);
+            DUE.is(field + " is public or private", isPublic || Modifier.isPrivate(field.getModifiers()), true);
+            if (isPublic) {
+                open.add("public static final " + field.getType() + " " + field.getName() + " = " + field.getInt(null) + ";");
+            }
         }
-        Constructor<?>[] constructors = of.getDeclaredConstructors();
-        DUE.is("one constructor", constructors.length, 1);
-        DUE.is("without parameters", constructors[0].getParameterCount(), 0);
+        DUE.is("members of the document", due.size(), 44);
+        for (String member : due) {
+            DUE.is("the class has " + member, open.contains(member), true);
+        }
+        for (String member : open) {
+            DUE.is("the document has " + member, due.contains(member), true);
+        }
+    }
+
+    /** No private method, and none of a class inside, bears the name of a public one. */
+    private static void onlyOneBears(String name) {
+        int bear = 0;
+        for (Method method : SecondHas.class.getDeclaredMethods()) {
+            bear += method.getName().equals(name) ? 1 : 0;
+        }
+        for (Class<?> inner : SecondHas.class.getDeclaredClasses()) {
+            for (Method method : inner.getDeclaredMethods()) {
+                bear += method.getName().equals(name) ? 1 : 0;
+            }
+        }
+        DUE.is("methods with the name " + name, bear, 1);
     }
 
     private static void classes() {
