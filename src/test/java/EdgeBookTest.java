@@ -367,6 +367,27 @@ public final class EdgeBookTest {
         due.is("as if nothing had been", Watch.all(x).equals(Watch.all(y)), true);
     }
 
+    @Says(promise = 41, words = "An IMAGE keeps the book, RULES of STRIVERS, the LAW as changed; BACK: they are so again.")
+    static void theRuleOfEachStriver(Due due) {
+        for (int many = 2; many <= 6; many++) {
+            for (int from = 0; from < 5; from++) {
+                SecondHas x = Due.of("s;".repeat(many - 1) + "s", "y:1", "y:2", "y:3", "y:0");
+                for (int i = 0; i < many; i++) {
+                    x.rule(i, (from + i) % 5 - 1);
+                }
+                x.image();
+                for (int i = 0; i < many; i++) {
+                    x.rule(i, (from + i + 2) % 5 - 1);
+                }
+                due.is("back", x.back(), 0);
+                for (int i = 0; i < many; i++) {
+                    due.is(i + " of " + many, Due.striver(x, i, 4), (from + i) % 5 - 1);
+                    due.is("its steps", x.step(9, 9, i, 1), new int[] {0, 1, 2, 3, 0}[(from + i) % 5]);
+                }
+            }
+        }
+    }
+
     @Says(promise = 41, words = "BACK: they are so again.")
     static void whatIsNotOfAnImage(Due due) {
         SecondHas x = States.three();

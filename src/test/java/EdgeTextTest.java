@@ -263,6 +263,30 @@ public final class EdgeTextTest {
         }
     }
 
+    @Says(promise = 4, words = "At most six of ( [ ! within one another.")
+    static void sixInEachPlace(Due due) {
+        String[] sums = {"", "1+", "1*", "1=1?", "1=1?1-", "1=1?1/", "!1=1?", "(1=1)?", "[1]=1?", "1;y:", "1=1?1;y:1=1?", "1=1?1;y:"};
+        for (String front : sums) {
+            String text = "y:" + front + "[".repeat(6);
+            rule(due, text + "1" + "]".repeat(6), Due.NONE);
+            rule(due, text + "[1" + "]".repeat(7), text.length());
+        }
+        String[] units = {"", "1=1&", "1=1|", "1=1&1=1|", "1=1?1;y:", "1;y:1=1|"};
+        for (String front : units) {
+            for (char open : "!(".toCharArray()) {
+                String text = "y:" + front + String.valueOf(open).repeat(6);
+                rule(due, text + "1=1" + (open == '(' ? ")".repeat(6) : "") + "?1", Due.NONE);
+                rule(due, text + open + "1=1", text.length());
+                rule(due, text + "[1]=1", text.length());
+            }
+            for (String side : new String[] {"", "1=", "1+", "1=1+"}) {
+                String text = "y:" + front + side + "[".repeat(6);
+                rule(due, text + "1" + "]".repeat(6) + (side.contains("=") ? "?1" : "=1?1"), Due.NONE);
+                rule(due, text + "[", text.length());
+            }
+        }
+    }
+
     @Says(promise = 4, words = "a seventh of ( [ ! at it")
     static void whatIsClosedCountsNoMore(Due due) {
         rule(due, "y:" + "[".repeat(6) + "1" + "]".repeat(6) + "+" + "[".repeat(6) + "1" + "]".repeat(6), Due.NONE);
